@@ -948,6 +948,7 @@ public final class ShipVoices {
         private static final int MOST_COLUMNS = 2 * MOST;
         private static final long ALONE = 1L << 40;
         private static final long FORBIDDEN = 1L << 50;
+        private static final long FAR = 1L << 60;
 
         private final long[] squares = new long[MOST * MOST];
         private final long[] rowDual = new long[MOST_COLUMNS];
@@ -1023,7 +1024,7 @@ public final class ShipVoices {
         /** One row more gets a column, by the cheapest chain of rows that move on. */
         private void admit(int row) {
             for (int c = 0; c < columns; c++) {
-                slack[c] = Long.MAX_VALUE;
+                slack[c] = FAR;
                 from[c] = NONE;
                 seen[c] = false;
             }
