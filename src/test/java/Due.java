@@ -5,16 +5,26 @@ import java.util.function.LongSupplier;
 final class Due {
     private static int wrong = 0;
     private static int asked = 0;
+    private static String sentence = "";
 
     private Due() {
+    }
+
+    /** The sentence of the document that the answers from here on belong to; SentenceTest reads these, too. */
+    static void about(String where, String words) {
+        sentence = where + ": '" + words + "': ";
     }
 
     static void is(String call, long got, long want) {
         asked++;
         if (got != want) {
-            wrong++;
-            System.out.println(call + " answered " + got + ", due is " + want);
+            fail(call + " answered " + got + ", due is " + want);
         }
+    }
+
+    private static void fail(String what) {
+        wrong++;
+        System.out.println(sentence + what);
     }
 
     static void isTrue(String call, boolean got) {
@@ -29,12 +39,10 @@ final class Due {
         asked++;
         try {
             long got = supplier.getAsLong();
-            wrong++;
-            System.out.println(call + " answered " + got + ", due is a NoSuchElementException");
+            fail(call + " answered " + got + ", due is a NoSuchElementException");
         } catch (NoSuchElementException e) {
             if (e.getClass() != NoSuchElementException.class) {
-                wrong++;
-                System.out.println(call + " threw " + e.getClass());
+                fail(call + " threw " + e.getClass());
             }
         }
     }
@@ -42,8 +50,7 @@ final class Due {
     static void same(String call, String got, String want) {
         asked++;
         if (!got.equals(want)) {
-            wrong++;
-            System.out.println(call + " answered " + got + ", due is " + want);
+            fail(call + " answered " + got + ", due is " + want);
         }
     }
 

@@ -92,6 +92,68 @@ final class Wire {
         return read;
     }
 
+    /** The BITS of a frame between its marks. */
+    static String body(String message) {
+        return stuffed(message + check(message));
+    }
+
+    /** Hears messages with one mark between each two, many on a tape, to spare calls. */
+    int sendAll(int channel, String... messages) {
+        int read = 0;
+        StringBuilder bits = new StringBuilder(MARK);
+        for (String message : messages) {
+            String more = body(message) + MARK;
+            if (bits.length() + more.length() > 3200) {
+                read += hear(channel, bits.toString());
+                bits = new StringBuilder(MARK);
+            }
+            bits.append(more);
+        }
+        return read + hear(channel, bits.toString());
+    }
+
+    /** The twenty bytes from a place on, as the five numbers of feed; 0 where the row has ended. */
+    static int[] words(int[] bytes, int from) {
+        int[] words = new int[5];
+        for (int k = 0; k < 20; k++) {
+            int one = from + k < bytes.length ? bytes[from + k] & 255 : 0;
+            words[k / 4] |= one << 24 - k % 4 * 8;
+        }
+        return words;
+    }
+
+    /** Puts bytes behind the tape and nothing else: the tape must have room for the last twenty. */
+    static void feed(ShipVoices x, int... bytes) {
+        int before = x.count(5);
+        for (int k = 0; k < bytes.length; k += 20) {
+            int[] w = words(bytes, k);
+            x.feed(w[0], w[1], w[2], w[3], w[4]);
+        }
+        x.end(before + bytes.length);
+    }
+
+    /** OUT. */
+    static int[] out(ShipVoices x) {
+        int[] out = new int[x.count(6)];
+        for (int k = 0; k < out.length; k++) {
+            out[k] = x.octet(k);
+        }
+        return out;
+    }
+
+    /** The BITS that bytes tell as from a LEVEL 0 on. */
+    static String bits(int... bytes) {
+        StringBuilder s = new StringBuilder();
+        int level = 0;
+        for (int one : bytes) {
+            for (int k = 7; k >= 0; k--) {
+                s.append((one >> k & 1) == level ? '1' : '0');
+                level = one >> k & 1;
+            }
+        }
+        return s.toString();
+    }
+
     /** Both hear the BITS of one frame on channel 0, filled up with BITS 0 to twenty bytes. */
     static void hearBoth(ShipVoices x, PlainVoices y, String bits) {
         int[] words = new int[5];
