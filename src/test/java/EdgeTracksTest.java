@@ -13,6 +13,7 @@ public final class EdgeTracksTest {
         first();
         noneOnlyIfNoneMay();
         howMany();
+        madeAnew();
         refused();
         stays();
         cost();
@@ -161,10 +162,29 @@ public final class EdgeTracksTest {
         ShipVoices yields = sea(row(0, 0, 0), row(0, 0, 20), row(5, 0, 10), row(5, 9, -9));
         Due.is("two", yields.part(7, 3), 2);
         rows(yields, row(0, -1, 0), row(1, -1, 1), row(2, 1, 1), row(3, 0, 0));
+        firstOfManyLeast();
         // A chain of three or two ends: 4 follows the earlier one of two that rest at its place.
         ShipVoices later = sea(row(0, 0, 0), row(1, 0, 0), row(1, 0, 0), row(2, 0, 0), row(2, 0, 0));
         Due.is("two", later.part(7, 1), 2);
         rows(later, row(0, -1, 0), row(1, 0, 0), row(2, -1, 1), row(3, 1, 0), row(4, 2, 1));
+    }
+
+    /** Several PARTINGS are least: a search for one of them comes upon another than the first. */
+    private static void firstOfManyLeast() {
+        ShipVoices nearer = sea(row(0, 0, 0), row(0, 1, 0), row(1, 1, 0), row(1, 1, 0));
+        Due.is("two", nearer.part(7, 1000), 2);
+        Due.is("1 either way", nearer.cost(), 1);
+        rows(nearer, row(0, -1, 0), row(1, -1, 1), row(2, 0, 0), row(3, 1, 1));
+        // 5 three ways: 2 behind 0 and 3 behind 2; 2 behind 1 and 3 behind 0; 2 behind 1 and 3 behind 2.
+        ShipVoices three = sea(row(0, 0, 0), row(0, 4, 0), row(3, 2, 0), row(5, 1, 0));
+        Due.is("two", three.part(7, 1000), 2);
+        Due.is("5 three ways", three.cost(), 5);
+        rows(three, row(0, -1, 0), row(1, -1, 1), row(2, 0, 0), row(3, 2, 0));
+        // 4 must follow 0; 2 and 3 are alike, and one of them follows 1: the first of both.
+        ShipVoices alike = sea(row(0, 0, 1), row(0, 1, 0), row(1, 0, 0), row(1, 0, 0), row(1, 0, 1));
+        Due.is("three", alike.part(7, 1000), 3);
+        Due.is("cost", alike.cost(), 1);
+        rows(alike, row(0, -1, 0), row(1, -1, 1), row(2, 1, 1), row(3, -1, 2), row(4, 0, 0));
     }
 
     private static void noneOnlyIfNoneMay() {
@@ -179,6 +199,11 @@ public final class EdgeTracksTest {
         ShipVoices y = sea(row(0, 0, 0), row(5, 0, 2), row(5, 0, 2), row(9, 0, 4));
         Due.is("two", y.part(7, 1), 2);
         rows(y, row(0, -1, 0), row(1, 0, 0), row(2, -1, 1), row(3, 1, 0));
+        // 2 three ways, in one of which 1 follows 0 and 2 none: 1 comes ahead of 2.
+        ShipVoices ahead = sea(row(0, 1, 0), row(3, 1, 1), row(6, 0, 0), row(6, 1, 0));
+        Due.is("two", ahead.part(7, 1000), 2);
+        Due.is("2 three ways", ahead.cost(), 2);
+        rows(ahead, row(0, -1, 0), row(1, 0, 0), row(2, -1, 1), row(3, 1, 0));
         // 1 could follow 0, but the cheaper one goes ahead: 2 does, and 1 begins a TRACK.
         ShipVoices cheaper = sea(row(0, 0, 0), row(5, 0, -2), row(5, 0, 1));
         Due.is("two", cheaper.part(7, 1), 2);
@@ -217,6 +242,34 @@ public final class EdgeTracksTest {
         Due.is("SHIP 0", other.part(0, 1), 2);
         Due.is("SHIP 1048575", other.part(1048575, 1), 1);
         rows(other, row(2, -1, 0));
+    }
+
+    /** Nothing of an earlier, larger PARTING is left in a later one. */
+    private static void madeAnew() {
+        Due.about("Promise 9", "A SHIP's least PARTING with SPEED V is made: how many TRACKS;");
+        ShipVoices x = new ShipVoices();
+        Wire wire = new Wire(x);
+        int[][] small = {row(0, 0, 0), row(0, 4, 0), row(3, 2, 0), row(5, 1, 0)};
+        int sent = 0;
+        for (int second = 0; second < 16; second++) {
+            for (int k = 0; k < small.length; k++) {
+                if (small[k][0] == second) {
+                    wire.send(0, Wire.position(7, small[k][1], small[k][2], 0, 0));
+                }
+            }
+            wire.send(1, Wire.position(8, second * second, 100 - 7 * second, 0, 0));
+            sent++;
+            x.wait(1);
+        }
+        Due.is("sixteen", sent, 16);
+        for (int speed = 1; speed <= 1000; speed += 111) {
+            Due.isTrue("the larger one", x.part(8, speed) > 0);
+            Due.is("the smaller one behind it", x.part(7, 1000), 2);
+            Due.is("cost", x.cost(), 5);
+            rows(x, row(0, -1, 0), row(1, -1, 1), row(5, 0, 0), row(8, 2, 0));
+        }
+        Due.is("the larger one again", x.part(8, 1000), 1);
+        Due.is("its last", x.parted(15, 1), 14);
     }
 
     private static void refused() {
