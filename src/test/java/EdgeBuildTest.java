@@ -47,6 +47,14 @@ public final class EdgeBuildTest {
         ShipVoices x = new ShipVoices();
         tells(x, "ONES all along", x.build(1, 1048575, -1, -1, -1, -1), Wire.position(1048575, -1, -1, -1, -1));
         tells(x, "31 ONES", x.build(3, 1048575, MOST, 0, 0, 0), Wire.base(1048575, MOST));
+        // Sixteen BITS 0 are put in: 121 BITS, the longest OUT that there is.
+        tells(x, "the longest", x.build(1, 1048575, -1, -131, -1, -3), Wire.position(1048575, -1, -131, -1, -3));
+        Due.is("its bytes", x.count(6), 16);
+        Due.is("its last byte", x.octet(15) & 1, 0);
+        Due.none("octet(16)", () -> x.octet(16));
+        Wire.feed(x, Wire.out(x));
+        Due.is("it is heard", x.hear(1), 1);
+        Due.is("its y", x.message(0, 5), -131);
         for (int ones = 0; ones <= 20; ones++) {
             int ship = (1 << ones) - 1;
             tells(x, ones + " ONES in SHIP", x.build(5, ship, 0, 1, 0, 0), Wire.claim(ship, 0, 1));
