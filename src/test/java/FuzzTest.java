@@ -104,7 +104,7 @@ public final class FuzzTest {
         int spread = 1 + below(12);
         switch (style == 1 ? 1 : style == 2 ? 4 : style == 3 ? 5 : 1 + below(5)) {
             case 1:
-                return Wire.position(ship(), below(spread) - spread / 2, below(spread), below(5) - 2, below(256) - 128);
+                return position(spread);
             case 2:
                 return Wire.fixed(ship(), Wire.letters(below(27), below(28), 26), Wire.letters(0, 1, below(27)), below(256));
             case 3:
@@ -114,6 +114,27 @@ public final class FuzzTest {
             default:
                 return Wire.claim(ship(), below(20) == 0 ? 2249 + below(2) : below(3), below(8));
         }
+    }
+
+    /** Mostly near ones; some at the corners, some anywhere, so that squares and reaches grow wide, too. */
+    private String position(int spread) {
+        switch (below(8)) {
+            case 0:
+                return Wire.position(ship(), end16(), end16(), end8(), end8());
+            case 1:
+                return Wire.position(ship(), (short) random.nextInt(), (short) random.nextInt(),
+                    (byte) random.nextInt(), (byte) random.nextInt());
+            default:
+                return Wire.position(ship(), below(spread) - spread / 2, below(spread), below(5) - 2, below(256) - 128);
+        }
+    }
+
+    private int end16() {
+        return below(2) == 0 ? -32768 : 32767;
+    }
+
+    private int end8() {
+        return below(2) == 0 ? -128 : 127;
     }
 
     private String bits() {
